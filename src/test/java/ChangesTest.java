@@ -182,6 +182,8 @@ public final class ChangesTest {
         Check.due("pass() with pieces that do not fit", full.pass(), 1);
         TrunkDuel last = Check.loaded("trunk 3 3;player a 0 0 0 0 1 0;player b 0 0 0 0 0 0;");
         Check.badState("pass() with a placement of a corner", last::pass);
+        TrunkDuel bar = Check.loaded("trunk 3 3;player a 1 0 0 0 0 0;player b 0 0 0 0 0 0;");
+        Check.badState("pass() with a placement of a bar", bar::pass);
         TrunkDuel other = Check.loaded("trunk 3 3;player a 0 0 0 0 0 0;player b 1 1 1 1 1 1;");
         Check.due("pass() while the other player could place", other.pass(), 1);
         Check.badState("pass() of the other player", other::pass);

@@ -43,6 +43,7 @@ public final class GrammarTest {
         setupFails(1, "   ^");
         setupFails(1, "^trunks 3 3;");
         setupFails(1, "^trun 3 3;");
+        setupFails(1, "^drunk 3 3;");
         setupFails(1, "^block 0 0;");
         setupFails(1, "^3 3;");
         setupFails(1, "^;");
@@ -70,6 +71,9 @@ public final class GrammarTest {
         setupFails(1, SIZE + "block ^right 0;");
         setupFails(1, SIZE + "block 1 ^;");
         setupFails(1, SIZE + "block 1 1 ^1;");
+        setupFails(1, SIZE + "block 1 1 ^strap 0 0 right;" + ANN + BOB);
+        setupFails(1, SIZE + "block 1 1 ^" + ANN + BOB);
+        setupFails(1, SIZE + "^clock 1 1;" + ANN + BOB);
         setupFails(1, SIZE + "strap 0 0 right;^block 2 2;" + ANN + BOB);
         setupFails(1, SIZE + ANN + "^block 2 2;" + BOB);
         setupFails(1, SETUP + "^block 2 2;");
@@ -86,6 +90,8 @@ public final class GrammarTest {
         setupFails(1, SIZE + "strap 0 0 ^0;");
         setupFails(1, SIZE + "strap 0 0 ^;");
         setupFails(1, SIZE + "strap 0 0 right ^right;");
+        setupFails(1, SIZE + "strap 0 0 right ^" + ANN + BOB);
+        setupFails(1, SIZE + "strap 0 0 ^night;" + ANN + BOB);
         setupFails(4, SIZE + "strap 0 0 right;strap 0 0 ^right;");
         setupFails(4, SIZE + "strap 1 2 below;strap 1 2 ^below;");
         setupFails(5, SIZE + "block 1 1;strap 1 1 ^right;");
@@ -179,6 +185,8 @@ public final class GrammarTest {
         scriptFails(1, "^7");
         scriptFails(1, "^passes;");
         scriptFails(1, "place ^box 0 0 0;");
+        scriptFails(1, "place ^car 0 0 0;");
+        scriptFails(1, "^bass;");
         scriptFails(1, "place ^0 0 0 0;");
         scriptFails(1, "place bar ^right 0 0;");
         scriptFails(2, "place bar ^4 0 0;");

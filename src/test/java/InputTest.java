@@ -134,6 +134,9 @@ public final class InputTest {
                 Check.view(duel), Check.view(Check.loaded(SMALL)));
         duel.restore(0);
         Check.due("load keeps the saved states", Check.view(duel), first);
+        Check.load(duel, SMALL.replace(";player a", ";strap 0 0 right;strap 0 0 below;player a"));
+        Check.load(duel, SMALL);
+        Check.due("no straps of the setup before are left", duel.strapCount(), 0);
     }
 
     private static void loadRunsCommands() {

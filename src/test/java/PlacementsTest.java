@@ -197,6 +197,15 @@ public final class PlacementsTest {
         best("at first", duel, 3, 0, 0, 0);
         duel.place(3, 0, 0, 0);
         best("of player 1", duel, 4, 0, 2, 1);
+        String upright = "trunk 3 3;block 0 0;block 1 0;block 2 0;block 0 1;block 1 1;block 0 2;"
+                + "block 1 2;player a 1 0 0 0 0 0;player b 1 0 0 0 0 0;";
+        Check.due("bestRotation() alone", Check.loaded(upright).bestRotation(), 1);
+        Check.due("bestColumn() alone", Check.loaded(upright).bestColumn(), 2);
+        Check.due("bestRow() alone", Check.loaded(upright).bestRow(), 1);
+        TrunkDuel forgets = Check.loaded(upright);
+        best("of one bar", forgets, 0, 1, 2, 1);
+        forgets.place(0, 1, 2, 1);
+        best("where nothing fits any more", forgets, -1, -1, -1, -1);
         best("that fills a row", Check.loaded("trunk 4 3;block 0 2;block 1 2;"
                 + "player a 1 0 0 1 0 0;player b 0 0 0 0 0 0;"), 3, 0, 2, 1);
         best("that is smaller but fills a row", Check.loaded("trunk 5 3;block 0 0;block 2 0;"
@@ -241,6 +250,13 @@ public final class PlacementsTest {
         Check.due("bestStrapEffect() at the end", over.bestStrapEffect(), TrunkDuel.NONE);
         TrunkDuel bars = Check.loaded("trunk 3 3;player a 0 0 0 0 0 1;player b 1 0 0 0 0 0;");
         Check.due("bestStrapEffect() on bars", bars.bestStrapEffect(), 2);
+        String first = "block 2 0;block 0 1;block 1 1;block 2 1;block 0 2;block 1 2;block 2 2;"
+                + "player a 0 0 0 0 0 1;player b 1 0 0 0 0 0;";
+        TrunkDuel edge = Check.loaded("trunk 3 3;" + first);
+        Check.due("bestStrapEffect() on the first edge", edge.bestStrapEffect(), 2);
+        Check.due("bestStrapEffect() again", edge.bestStrapEffect(), 2);
+        edge.fastenStrap(0, 0, 0);
+        Check.due("bestStrapEffect() behind it", edge.bestStrapEffect(), 0);
         TrunkDuel rods = Check.loaded("trunk 4 3;player a 0 0 0 0 0 1;player b 0 0 1 0 0 0;");
         Check.due("bestStrapEffect() on rods", rods.bestStrapEffect(), 4);
         TrunkDuel second = Check.loaded("trunk 4 3;player a 0 0 9 0 0 9;player b 0 0 0 0 0 1;"

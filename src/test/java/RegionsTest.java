@@ -63,6 +63,11 @@ public final class RegionsTest {
     }
 
     private static void singleCells() {
+        String single = "trunk 3 3;block 1 0;block 0 1;" + PLAYERS;
+        Check.due("deadCells() alone", Check.loaded(single).deadCells(), 1);
+        Check.due("largestRegion() alone", Check.loaded(single).largestRegion(), 6);
+        Check.due("isDead(0, 0) alone", Check.loaded(single).isDead(0, 0), true);
+        Check.due("regionSize(2, 2) alone", Check.loaded(single).regionSize(2, 2), 6);
         TrunkDuel duel = Check.loaded("trunk 3 3;block 1 0;block 0 1;block 2 1;block 1 2;" + PLAYERS);
         Check.due("regionCount()", duel.regionCount(), 5);
         Check.due("largestRegion()", duel.largestRegion(), 1);

@@ -2,8 +2,14 @@
 final class Check {
     private static int wrong = 0;
     private static int asked = 0;
+    private static String sentence = "";
 
     private Check() {
+    }
+
+    /** The sentence of the document that the checks from here on are about; reports show it. */
+    static void sentence(String where, String words) {
+        sentence = "[" + where + ": " + words + "] ";
     }
 
     static void due(String call, long got, long want) {
@@ -59,7 +65,7 @@ final class Check {
     private static void report(String text) {
         wrong++;
         if (wrong <= 50) {
-            System.out.println(text);
+            System.out.println(sentence + text);
         }
     }
 
@@ -90,11 +96,13 @@ final class Check {
     }
 
     static int load(TrunkDuel duel, String text) {
+        duel.truncateInput(0);
         write(duel, 0, text);
         return duel.load();
     }
 
     static int play(TrunkDuel duel, String text) {
+        duel.truncateInput(0);
         write(duel, 0, text);
         return duel.play();
     }

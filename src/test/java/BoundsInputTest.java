@@ -203,6 +203,11 @@ public final class BoundsInputTest {
         Check.load(over, SMALL);
         Check.due("the state behind a game that was over", Check.view(over), Check.view(Check.loaded(SMALL)));
         Check.due("misfits of what is gone", over.misfitReason(3, 0, 0, 0), 0);
+        TrunkDuel twice = Check.loaded("trunk 4 4;block 3 3;strap 0 0 right;"
+                + "player abc 9 9 9 9 9 9;player bcd 0 0 0 0 0 1;place rod 0 1 1;pass;");
+        Check.load(twice, "trunk 3 3;" + Bounds.POOR + "pass;pass;");
+        Check.load(twice, SMALL);
+        Check.due("the state behind three load()s", Check.view(twice), Check.view(Check.loaded(SMALL)));
     }
 
     private static void loadWithAnError() {
@@ -245,6 +250,10 @@ public final class BoundsInputTest {
     private static void playIsASingleChange() {
         Check.sentence("5", "Without an error the commands are executed as a single change.");
         String[] texts = {"", "place rod 0 2 3;", "place rod 0 2 3;place bar 1 2 1;strap 0 2 right;"};
+        TrunkDuel still = used("");
+        String unmoved = Check.view(still);
+        still.play();
+        Check.due("the state behind play() of nothing", Check.view(still), unmoved);
         for (String text : texts) {
             TrunkDuel duel = used(text);
             int changes = duel.undoableChanges();
@@ -283,7 +292,11 @@ public final class BoundsInputTest {
         Check.due("play() of one strap more", Check.play(Bounds.with("trunk 8 8;", Bounds.RICH),
                 most + "strap 0 7 right;"), Bounds.NONE);
         Check.due("play() of an error", Check.play(new TrunkDuel(), "pass;"), Bounds.NONE);
-        Check.due("play() right behind it", Check.play(new TrunkDuel(), "place bar 0 0 0;"), 1);
+        TrunkDuel often = new TrunkDuel();
+        Check.due("the first play()", Check.play(often, "place bar 0 0 0;place bar 0 0 1;"), 2);
+        Check.due("a play() with an error", Check.play(often, "place bar 0 0 2;place bar 0 0 1;"), Bounds.NONE);
+        Check.due("the play() behind it", Check.play(often, "place bar 0 0 2;"), 1);
+        Check.due("the play() of nothing behind it", Check.play(often, ""), 0);
     }
 
     private static void codeOfTheLatest() {

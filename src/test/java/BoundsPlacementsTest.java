@@ -16,6 +16,7 @@ public final class BoundsPlacementsTest {
         mobilityAfter();
         mobilityAfterNone();
         mobilityAfterArguments();
+        bestAlone();
         bestTies();
         bestIsTheMost();
         bestIsOfTheSupply();
@@ -246,6 +247,15 @@ public final class BoundsPlacementsTest {
         Check.due("bestRow() " + state, duel.bestRow(), row);
     }
 
+    private static void bestAlone() {
+        Check.sentence("44 to 47", "Returns the rotation of the placement that bestShape() finds");
+        String trunk = "trunk 3 3;block 0 0;block 1 0;block 2 0;block 0 1;block 1 1;block 0 2;block 1 2;";
+        Check.due("bestShape() first", Bounds.with(trunk, Bounds.RICH).bestShape(), 0);
+        Check.due("bestRotation() first", Bounds.with(trunk, Bounds.RICH).bestRotation(), 1);
+        Check.due("bestColumn() first", Bounds.with(trunk, Bounds.RICH).bestColumn(), 2);
+        Check.due("bestRow() first", Bounds.with(trunk, Bounds.RICH).bestRow(), 1);
+    }
+
     private static void bestTies() {
         Check.sentence("44 to 47", "A tie goes to the lower shape, then to the lower rotation, then to the lower row, and"
                 + " then to the lower column.");
@@ -352,6 +362,11 @@ public final class BoundsPlacementsTest {
         Check.due("where the other has no piece", used.bestStrapEffect(), 0);
         used.fastenStrap(0, 1, 0);
         Check.due("behind the last strap", used.bestStrapEffect(), 0);
+        TrunkDuel again = Bounds.with("trunk 3 3;", "player a 0 0 0 0 0 1;player b 1 0 0 0 0 0;");
+        Check.due("the first time", again.bestStrapEffect(), 2);
+        Check.due("the second time", again.bestStrapEffect(), 2);
+        Check.load(again, "trunk 3 3;" + POOR);
+        Check.due("in another game", again.bestStrapEffect(), 0);
         Bounds.quiet("bestStrapEffect()", 0, Bounds::over, duel -> duel.bestStrapEffect() + 1);
     }
 
